@@ -305,9 +305,9 @@ public final class PageKeeper {
                 continue;
             }
             if (row.hadBefore) {
-                putValue(serial, row.key, row.before, n);
+                putValue(serial, row.head, row.before, n);
             } else {
-                takeOut(serial, row.key, n);
+                takeOut(serial, row.head, n);
             }
             undone++;
         }
@@ -325,7 +325,7 @@ public final class PageKeeper {
         }
         int splits = (log.size - rowsBefore) / SPLIT_ROWS;
         LogRow row = addChange(SET, leaf, serial, key, undoes);
-        row.value = value;
+        row.tail = value;
         enforce(row);
         return splits;
     }
@@ -345,7 +345,7 @@ public final class PageKeeper {
         Contents contents = pages[leaf].contents;
         int at = contents.indexOf(key);
         LogRow row = log.add(kind, leaf, pages[leaf].latest, serial);
-        row.key = key;
+        row.head = key;
         row.undoes = undoes;
         row.hadBefore = at != NONE;
         row.before = at != NONE ? contents.tails[at] : 0;
@@ -389,14 +389,18 @@ public final class PageKeeper {
         int lower = pagesMade;
         int upper = pagesMade + 1;
         int separator = root.middleKey();
-        int last = log.size + SPLIT_ROWS;
+        log.startSplit();
         fixNew(lower);
-        formatHalf(lower, root, 0, last);
+        LogRow row = log.add(FORMAT, lower, 0, NOBODY);
+        row.bringHalf(root, 0);
+        enforce(row);
         fixNew(upper);
-        formatHalf(upper, root, HALF, last);
+        row = log.add(FORMAT, upper, 0, NOBODY);
+        row.bringHalf(root, HALF);
+        enforce(row);
         fix(ROOT);
-        LogRow row = addOfSplit(FORMAT, ROOT, last);
-        row.formatted.becomeBranch(lower, separator, upper);
+        row = log.add(FORMAT, ROOT, pages[ROOT].latest, NOBODY);
+        row.bringBranch(lower, separator, upper);
         enforce(row);
         return key < separator ? lower : upper;
     }
@@ -406,32 +410,21 @@ public final class PageKeeper {
         if (pagesMade + 1 > MOST_PAGES) {
             return full;
         }
+        Contents contents = pages[full].contents;
         int upper = pagesMade;
-        int separator = pages[full].contents.middleKey();
-        int last = log.size + SPLIT_ROWS;
+        int separator = contents.middleKey();
+        log.startSplit();
         fixNew(upper);
-        formatHalf(upper, pages[full].contents, HALF, last);
+        LogRow row = log.add(FORMAT, upper, 0, NOBODY);
+        row.bringHalf(contents, HALF);
+        enforce(row);
         fix(full);
-        enforce(addOfSplit(CUT, full, last));
+        enforce(log.add(CUT, full, pages[full].latest, NOBODY));
         fix(parent);
-        LogRow row = addOfSplit(LINK, parent, last);
-        row.key = separator;
-        row.value = upper;
-        row.behind = full;
+        row = log.add(LINK, parent, pages[parent].latest, NOBODY);
+        row.bringChild(separator, upper, full);
         enforce(row);
         return key < separator ? full : upper;
-    }
-
-    private void formatHalf(int page, Contents full, int from, int last) {
-        LogRow row = addOfSplit(FORMAT, page, last);
-        row.formatted.becomeHalf(full, from);
-        enforce(row);
-    }
-
-    private LogRow addOfSplit(int kind, int page, int last) {
-        LogRow row = log.add(kind, page, pages[page].latest, NOBODY);
-        row.last = last;
-        return row;
     }
 
     private void enforce(LogRow row) {
@@ -440,11 +433,11 @@ public final class PageKeeper {
         }
         Page page = pages[row.page];
         switch (row.kind) {
-            case SET: page.contents.enter(row.key, row.value); break;
-            case OUT: page.contents.drop(row.key); break;
-            case FORMAT: page.contents.become(row.formatted); break;
+            case SET: page.contents.enter(row.head, row.tail); break;
+            case OUT: page.contents.drop(row.head); break;
+            case FORMAT: page.contents.becomeWhatBrings(row); break;
             case CUT: page.contents.size = HALF; break;
-            case LINK: page.contents.link(row.key, row.value, row.behind); break;
+            case LINK: page.contents.link(row.tail, row.head, row.behind); break;
             default: break;
         }
         page.latest = row.number;
@@ -513,7 +506,7 @@ public final class PageKeeper {
         for (int n = 1; n <= log.size; n++) {
             LogRow row = log.rows[n];
             if (row.isChange()) {
-                locks.loserOn[row.key] = row.transaction;
+                locks.loserOn[row.head] = row.transaction;
             } else if (row.page == NONE) {
                 locks.releaseLoser(row.transaction);
             }
@@ -534,30 +527,13 @@ public final class PageKeeper {
             size = 0;
         }
 
-        void become(Contents other) {
-            branch = other.branch;
-            size = other.size;
-            for (int i = 0; i < FULL; i++) {
-                heads[i] = other.heads[i];
-                tails[i] = other.tails[i];
-            }
-        }
-
-        void becomeHalf(Contents full, int from) {
-            branch = full.branch;
+        void becomeWhatBrings(LogRow row) {
+            branch = row.branch;
             size = HALF;
-            for (int i = 0; i < HALF; i++) {
-                heads[i] = full.heads[from + i];
-                tails[i] = full.tails[from + i];
-            }
-        }
-
-        void becomeBranch(int lower, int separator, int upper) {
-            branch = true;
-            size = HALF;
-            heads[0] = lower;
-            tails[0] = separator;
-            heads[1] = upper;
+            heads[0] = row.head;
+            tails[0] = row.tail;
+            heads[1] = row.nextHead;
+            tails[1] = row.nextTail;
         }
 
         int headAt(int i) {
@@ -669,15 +645,42 @@ public final class PageKeeper {
         boolean undone;
         /** Up to which the log is forced, if it is forced up to this one. */
         int last;
-        /** The key of an entry, or the separator that is linked. */
-        int key;
-        /** The value of an entry, or the child that is linked. */
-        int value;
+        /** What it brings: the key and value of an entry, or a child and a separator. */
+        int head;
+        int tail;
+        /** FORMAT brings a second pair, and says which kind of page becomes of both. */
+        int nextHead;
+        int nextTail;
+        boolean branch;
+        /** The child behind which LINK brings another. */
+        int behind;
+        /** What an entry was before SET or OUT. */
         boolean hadBefore;
         int before;
-        /** The child behind which another is linked. */
-        int behind;
-        final Contents formatted = new Contents();
+
+        void bringHalf(Contents full, int from) {
+            if (from < 0 || from > FULL - HALF) {
+                return;
+            }
+            branch = full.branch;
+            head = full.heads[from];
+            tail = full.tails[from];
+            nextHead = full.heads[from + 1];
+            nextTail = full.tails[from + 1];
+        }
+
+        void bringBranch(int lower, int separator, int upper) {
+            branch = true;
+            head = lower;
+            tail = separator;
+            nextHead = upper;
+        }
+
+        void bringChild(int separator, int child, int behindChild) {
+            head = child;
+            tail = separator;
+            behind = behindChild;
+        }
 
         boolean isChange() {
             return kind == SET || kind == OUT;
@@ -693,6 +696,8 @@ public final class PageKeeper {
         final LogRow[] rows = new LogRow[MOST_ROWS + 1];
         int size = 0;
         int forced = 0;
+        /** The last record of the latest split: all that are added up to it belong to that split. */
+        int splitLast = 0;
 
         LogRow add(int kind, int page, int previous, int transaction) {
             if (size < MOST_ROWS) {
@@ -709,18 +714,23 @@ public final class PageKeeper {
             row.transaction = transaction;
             row.undoes = 0;
             row.undone = false;
-            row.last = size;
+            row.last = size < splitLast ? splitLast : size;
             return row;
         }
 
+        void startSplit() {
+            splitLast = size + SPLIT_ROWS;
+        }
+
         void force(int n) {
-            if (n > 0 && n <= size) {
-                forced = Math.max(forced, rows[n].last);
+            if (n > 0 && n <= size && rows[n].last > forced) {
+                forced = rows[n].last;
             }
         }
 
         void loseUnforced() {
             size = forced;
+            splitLast = 0;
         }
     }
 
