@@ -692,7 +692,7 @@ public final class PageKeeper {
     }
 
     private static final class Log {
-        /** From 1 on, as the records are numbered; made when first needed, and kept for new records. */
+        /** From 1 on, as the records are numbered; made when first needed, so that up to size none is null. */
         final LogRow[] rows = new LogRow[MOST_ROWS + 1];
         int size = 0;
         int forced = 0;

@@ -19,6 +19,8 @@ public final class PromisesTest {
         getMeetsLoser();
         putOrdinary();
         putSplitsTwice();
+        putToTheSeparator();
+        splitsFixInTheirOrder();
         putWrongInputs();
         remove();
         commit();
@@ -35,6 +37,8 @@ public final class PromisesTest {
         damagedImageThatIsNotWritten();
         crash();
         crashUnmakesPages();
+        crashUnsplitsTheRoot();
+        numbersThatACrashFreed();
         crashKeepsWhatIsStored();
         losersOfSeveralCrashes();
         page();
@@ -140,6 +144,37 @@ public final class PromisesTest {
 
         Run again = rootAndLeafFull(run("4 put to a key that is there"));
         again.put(0, 10, 1, 0).put(0, 39, 2, 0).count(1, 22).count(0, 5);
+    }
+
+    private static void putToTheSeparator() {
+        Run r = rootAndLeafFull(run("4 put to the key at which the root is split"));
+        r.remove(0, 35, 350).put(0, 35, 351, 1).showAll(0, 1, 2, 5, 6, NONE, NONE, 35);
+        r.showAll(3, 0, 2, 35, 36, NONE, NONE, 351, 360).showAll(2, 0, 2, 20, 30, NONE).get(0, 35, 351);
+
+        Run below = nineKeys(run("4 put to the key at which a branch is split"));
+        below.put(0, 9, 90, 1).put(0, 10, 100, 1).putAll(0, 11).put(0, 12, 120, 1);
+        below.showAll(6, 1, 4, 3, 4, 7, 8, 6, 8, 10, NONE).remove(0, 8, 80).put(0, 8, 81, 1);
+        below.showAll(0, 1, 3, 5, 6, 9, NONE, 4, 8, NONE, NONE).showAll(6, 1, 2, 3, 4, NONE, NONE, 6, NONE);
+        below.showAll(9, 1, 2, 7, 8, NONE, NONE, 10, NONE).showAll(7, 0, 2, 8, 9, NONE, NONE, 81, 90).get(0, 8, 81);
+    }
+
+    /** A backup fixes one page alone, so that the order of those that leave can be seen. */
+    private static void splitsFixInTheirOrder() {
+        Run root = nineKeys(run("4 the order of fixing when the root is split"));
+        root.put(0, 9, 90, 1).page(1, 0, 0);
+        root.backup(1, 1).page(2, 0, 0).page(3, 0, 1);
+        root.backup(2, 1).page(3, 0, 0).page(5, 0, 1);
+        root.backup(3, 1).page(5, 0, 0).page(0, 0, 1).page(4, 0, 1);
+        root.backup(5, 1).page(0, 0, 0).page(6, 0, 1);
+        root.backup(0, 1).page(6, 0, 0).page(4, 0, 1);
+
+        Run below = nineKeys(run("4 the order of fixing when a leaf is split"));
+        below.put(0, 9, 90, 1).put(0, 10, 100, 1).page(2, 0, 0);
+        below.backup(1, 1).page(3, 0, 0).page(5, 0, 1);
+        below.backup(2, 1).page(5, 0, 0).page(0, 0, 1);
+        below.backup(3, 1).page(0, 0, 0).page(4, 0, 1).page(6, 0, 1);
+        below.backup(5, 1).page(4, 0, 0).page(6, 0, 1);
+        below.backup(0, 1).page(6, 0, 0).page(7, 0, 1);
     }
 
     private static void putWrongInputs() {
@@ -329,6 +364,29 @@ public final class PromisesTest {
         r.page(0, 4, 12).page(0, 5, 6).page(0, 1, 0).page(1, 1, 5).page(3, 1, 0).page(3, 4, 10).count(3, 2);
         r.settle(1).count(1, 19).count(3, 6).count(5, 7).count(6, 1).count(0, 4);
         r.begin(0, 2).putAll(0, 4, 5, 6, 7).put(0, 8, 80, 1).count(0, 5).page(4, 3, 0).page(4, 1, 0).page(3, 3, 1);
+    }
+
+    private static void crashUnsplitsTheRoot() {
+        Run r = run("12 crash that unsplits the root");
+        r.begin(0, 1).putAll(0, 0, 1, 2, 3).commit(0, 5).begin(0, 2).put(0, 4, 40, 1).count(0, 3);
+        r.crash(0).count(0, 1).showAll(0, 0, 4, 0, 1, 2, 3, 0, 10, 20, 30).page(0, 4, 4).page(0, 5, 4);
+        r.begin(0, 3).get(0, 3, 30).count(5, 4).put(0, 4, 41, 1).showAll(2, 0, 3, 2, 3, 4);
+    }
+
+    private static void numbersThatACrashFreed() {
+        Run split = run("12 a number that a record of a split had");
+        split.begin(0, 1).putAll(0, 0, 1, 2, 3).put(0, 4, 40, 1).crash(0).count(1, 0);
+        split.begin(0, 2).putAll(0, 9).flush(0, 1).count(2, 1).putAll(0, 8, 7, 6).commit(0, 5).count(2, 5);
+        split.begin(0, 3).put(0, 6, 61, 0).flush(0, 1).count(2, 6);
+
+        Run undone = run("12 a number that an undone record had");
+        undone.begin(0, 1).put(0, 1, 10, 0).abort(0, 1).crash(0);
+        undone.begin(0, 2).put(0, 1, 11, 0).recordAll(1, 1, 0, 0, 2, 0).abort(0, 1).show(0, 1, 0);
+
+        Run undoing = run("12 a number that an undoing record had");
+        undoing.begin(0, 1).put(0, 1, 10, 0).flush(0, 1).abort(0, 1).recordAll(2, 2, 0, 1, 1, 1).crash(1);
+        undoing.begin(0, 2).commit(0, 2).recordAll(2, 6, NONE, NONE, 2, 0).settle(1).recordAll(3, 2, 0, 1, 1, 1);
+        undoing.show(0, 1, 0);
     }
 
     private static void crashKeepsWhatIsStored() {
