@@ -122,15 +122,8 @@ public final class PromisesTest {
         r.put(0, 5, 51, 0).record(11, 1, 2).put(0, 4, 40, 0).record(12, 1, 1);
     }
 
-    /** The leaf with the low keys is filled before the root is, so that both are split by one put. */
-    private static Run rootAndLeafFull(Run r) {
-        r.begin(0, 1).putAll(0, 0, 10, 20, 30).put(0, 35, 350, 1).putAll(0, 1, 2, 36);
-        r.put(0, 37, 370, 1).putAll(0, 38).put(0, 39, 390, 1);
-        return r.showAll(0, 1, 4, 1, 2, 3, 4, 20, 35, 37, NONE).show(1, 1, 4).count(1, 20).count(0, 5);
-    }
-
     private static void putSplitsTwice() {
-        Run r = rootAndLeafFull(run("4 put that splits twice"));
+        Run r = Trees.rootAndLeafFull(run("4 put that splits twice"));
         r.put(0, 3, 30, 2).count(0, 8).count(1, 27);
         r.recordAll(21, 3, 5, 0, 0, 0).recordAll(22, 3, 6, 0, 0, 0).recordAll(23, 3, 0, 19, 0, 0);
         r.recordAll(24, 3, 7, 0, 0, 0).recordAll(25, 4, 1, 10, 0, 0).recordAll(26, 5, 5, 21, 0, 0);
@@ -142,16 +135,16 @@ public final class PromisesTest {
         r.showAll(7, 0, 3, 2, 3, 10, NONE, 20, 30, 100, NONE);
         r.get(0, 35, 350).get(0, 34, ELEMENT).get(0, 2, 20).get(0, 10, 100).get(0, 20, 200);
 
-        Run again = rootAndLeafFull(run("4 put to a key that is there"));
+        Run again = Trees.rootAndLeafFull(run("4 put to a key that is there"));
         again.put(0, 10, 1, 0).put(0, 39, 2, 0).count(1, 22).count(0, 5);
     }
 
     private static void putToTheSeparator() {
-        Run r = rootAndLeafFull(run("4 put to the key at which the root is split"));
+        Run r = Trees.rootAndLeafFull(run("4 put to the key at which the root is split"));
         r.remove(0, 35, 350).put(0, 35, 351, 1).showAll(0, 1, 2, 5, 6, NONE, NONE, 35);
         r.showAll(3, 0, 2, 35, 36, NONE, NONE, 351, 360).showAll(2, 0, 2, 20, 30, NONE).get(0, 35, 351);
 
-        Run below = nineKeys(run("4 put to the key at which a branch is split"));
+        Run below = Trees.nineKeys(run("4 put to the key at which a branch is split"));
         below.put(0, 9, 90, 1).put(0, 10, 100, 1).putAll(0, 11).put(0, 12, 120, 1);
         below.showAll(6, 1, 4, 3, 4, 7, 8, 6, 8, 10, NONE).remove(0, 8, 80).put(0, 8, 81, 1);
         below.showAll(0, 1, 3, 5, 6, 9, NONE, 4, 8, NONE, NONE).showAll(6, 1, 2, 3, 4, NONE, NONE, 6, NONE);
@@ -160,7 +153,7 @@ public final class PromisesTest {
 
     /** A backup fixes one page alone, so that the order of those that leave can be seen. */
     private static void splitsFixInTheirOrder() {
-        Run root = nineKeys(run("4 the order of fixing when the root is split"));
+        Run root = Trees.nineKeys(run("4 the order of fixing when the root is split"));
         root.put(0, 9, 90, 1).page(1, 0, 0);
         root.backup(1, 1).page(2, 0, 0).page(3, 0, 1);
         root.backup(2, 1).page(3, 0, 0).page(5, 0, 1);
@@ -168,7 +161,7 @@ public final class PromisesTest {
         root.backup(5, 1).page(0, 0, 0).page(6, 0, 1);
         root.backup(0, 1).page(6, 0, 0).page(4, 0, 1);
 
-        Run below = nineKeys(run("4 the order of fixing when a leaf is split"));
+        Run below = Trees.nineKeys(run("4 the order of fixing when a leaf is split"));
         below.put(0, 9, 90, 1).put(0, 10, 100, 1).page(2, 0, 0);
         below.backup(1, 1).page(3, 0, 0).page(5, 0, 1);
         below.backup(2, 1).page(5, 0, 0).page(0, 0, 1);
@@ -287,13 +280,8 @@ public final class PromisesTest {
         cut.flush(2, 1).page(2, 1, 11).count(2, 12).crash(1).count(1, 12).showAll(3, 0, 2, 4, 5);
     }
 
-    private static Run nineKeys(Run r) {
-        r.begin(0, 1).putAll(0, 0, 1, 2, 3).put(0, 4, 40, 1).putAll(0, 5).put(0, 6, 60, 1).putAll(0, 7);
-        return r.put(0, 8, 80, 1).count(0, 5).count(1, 18).count(2, 0);
-    }
-
     private static void poolLetsTheLeastLatelyFixedLeave() {
-        Run r = nineKeys(run("9 the pool"));
+        Run r = Trees.nineKeys(run("9 the pool"));
         r.countAll(5, 18, 0, 1, 0, 0, 0, 0, 1);
         r.put(0, 9, 90, 1).countAll(7, 22, 7, 1, 1, 0, 0, 0, 1);
         r.page(1, 0, 0).page(1, 1, 5).page(2, 0, 1).page(5, 0, 1).page(6, 0, 1);
@@ -304,10 +292,10 @@ public final class PromisesTest {
     }
 
     private static void flushFixesNothing() {
-        Run r = nineKeys(run("9 flush fixes nothing"));
+        Run r = Trees.nineKeys(run("9 flush fixes nothing"));
         r.flush(1, 1).put(0, 9, 90, 1).page(1, 0, 0).count(4, 1);
 
-        Run fixed = nineKeys(run("10 backup fixes the page"));
+        Run fixed = Trees.nineKeys(run("10 backup fixes the page"));
         fixed.backup(1, 1).put(0, 9, 90, 1).page(1, 0, 1).page(2, 0, 0).count(4, 1);
     }
 
@@ -334,7 +322,7 @@ public final class PromisesTest {
     }
 
     private static void damagedImageThatIsNotWritten() {
-        Run r = nineKeys(run("11 a damaged image that is not to be written"));
+        Run r = Trees.nineKeys(run("11 a damaged image that is not to be written"));
         r.put(0, 9, 90, 1).get(0, 0, 0).damage(2, 1).get(0, 2, 20).count(6, 1).count(5, 4).page(2, 3, 1);
         r.get(0, 4, 40).get(0, 9, 90).get(0, 0, 0).get(0, 4, 40).page(2, 0, 0).page(2, 3, 1);
         r.get(0, 3, 30).count(6, 2).count(5, 8).page(2, 3, 1).put(0, 2, 21, 0).flush(2, 1).page(2, 3, 0);
@@ -357,7 +345,7 @@ public final class PromisesTest {
     }
 
     private static void crashUnmakesPages() {
-        Run r = nineKeys(run("12 crash that unmakes pages"));
+        Run r = Trees.nineKeys(run("12 crash that unmakes pages"));
         r.put(0, 9, 90, 1).get(0, 0, 0).damage(3, 1).damage(4, 1).damage(6, 1).count(0, 7).count(2, 12);
         r.crash(1).count(0, 4).count(1, 12).page(4, 3, NONE).page(3, 3, 1).show(4, 0, NONE).damage(4, 0);
         r.showAll(0, 1, 3, 1, 2, 3, NONE, 2, 4, NONE, NONE).showAll(3, 0, 2, 4, 5, NONE, NONE, 40, 50);
@@ -426,13 +414,13 @@ public final class PromisesTest {
         r.commit(0, 3).crash(0).damage(0, 1).showAll(0, 0, 2, 2, 9, NONE, NONE, 0, -1, NONE, NONE);
         r.page(0, 0, 0).count(3, 1).count(5, 0).count(6, 0);
 
-        Run branch = rootAndLeafFull(run("14 show of a full branch"));
+        Run branch = Trees.rootAndLeafFull(run("14 show of a full branch"));
         branch.showAll(0, 1, 4, 1, 2, 3, 4, 20, 35, 37, NONE);
         branch.showAll(1, 0, 4, 0, 1, 2, 10, 0, 10, 20, 100);
     }
 
     private static void count() {
-        Run r = nineKeys(run("15 count"));
+        Run r = Trees.nineKeys(run("15 count"));
         r.put(0, 9, 90, 1).get(0, 0, 0).crash(1).countAll(4, 12, 12, 2, 2, 0, 0, 1, 1);
         r.damage(2, 1).begin(1, 2).get(1, 30, ELEMENT).countAll(4, 12, 12, 4, 2, 7, 0, 1, 2);
         r.get(1, 3, ELEMENT).count(7, 0).count(6, 1).count(5, 11);

@@ -1,16 +1,26 @@
 /** A new PageKeeper, each call with the answer that is due of it. */
 final class Run {
+    static final int MOST_CALLS = 512;
+
     private final PageKeeper keeper = new PageKeeper();
     private final Checks checks;
     private final String name;
+    private int calls = 0;
 
     Run(Checks checks, String name) {
         this.checks = checks;
         this.name = name;
     }
 
+    /** A call behind the last promised one would test nothing, so it counts as wrong. */
     private void due(String call, Object want, Checks.Call made) {
-        checks.due(name + ": " + call, want, made);
+        calls++;
+        String row = name + ": call " + calls + ", " + call;
+        checks.due(calls > MOST_CALLS ? row + " comes too late, it" : row, calls > MOST_CALLS ? "nothing" : want, made);
+    }
+
+    int calls() {
+        return calls;
     }
 
     Run begin(int t, Object want) {
